@@ -942,14 +942,14 @@ public final class OneStroke {
         /** SPREAD, on a line whose STROKES were forgotten ahead of these BEATS. */
         int spreadIn(int beats) {
             pass(beats);
-            int least = Integer.MAX_VALUE;
+            int least = 0;
             int greatest = 0;
             for (int k = 0; k < size; k++) {
                 int first = drummers[k].first;
                 if (first == 0) {
                     return NONE;
                 }
-                least = Math.min(least, first);
+                least = k == 0 ? first : Math.min(least, first);
                 greatest = Math.max(greatest, first);
             }
             return size == 0 ? NONE : greatest - least;

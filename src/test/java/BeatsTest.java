@@ -30,6 +30,18 @@ public final class BeatsTest {
         return x;
     }
 
+    /** Ten who strike at once, and again: START 9, and one BEAT ahead of 9. */
+    private static OneStroke ten() {
+        OneStroke x = line(9, 9, 9, 9, 9, 9, 9, 9, 9, 9);
+        for (int k = 0; k < 10; k++) {
+            x.set(k, 2, 8);
+        }
+        Due.due("all() of ten", x.all(), 1);
+        Due.due("spread(1) of ten", x.spread(1), 0);
+        Due.due("behind(9, 1, 2) of ten", x.behind(9, 1, 2), 10);
+        return x;
+    }
+
     private static void counts(String when, OneStroke x, int... want) {
         for (int k = 0; k < want.length; k++) {
             Due.due("COUNT of " + k + " " + when, x.told(k, 2), want[k]);
@@ -45,6 +57,7 @@ public final class BeatsTest {
         Due.due("order(1)", x.order(1), 9);
         Due.due("order(2) of EAGER", x.order(2), 5);
         Due.due("order(3) of LATE", x.order(3), 1);
+        Due.due("order(3) with COUNT 1", x.order(3), NO);
         Due.due("order(4)", x.order(4), BAD);
         Due.due("order(-1)", x.order(-1), BAD);
         counts("by orders", x, 4, 9, 5, 1);
@@ -74,6 +87,7 @@ public final class BeatsTest {
         x.set(1, 2, 1);
         Due.due("hush() of one", x.hush(), 1);
         Due.due("hush() of none", new OneStroke().hush(), 0);
+        Due.due("hush() of ten", ten().hush(), 10);
     }
 
     private static void beatsAndStrokes() {
@@ -316,6 +330,8 @@ public final class BeatsTest {
         Due.due("toWhom(9)", x.toWhom(9), 1);
         Due.due("toWhom(60)", x.toWhom(60), 1);
         Due.due("toWhom(8)", x.toWhom(8), NONE);
+        Due.due("toWhom(1)", x.toWhom(1), NONE);
+        Due.due("toWhom(1) of one", line(8).toWhom(1), 0);
         Due.due("toWhom(0)", x.toWhom(0), BAD);
         Due.due("toWhom(61)", x.toWhom(61), BAD);
         Due.due("toWhom(-5)", x.toWhom(-5), BAD);
@@ -352,6 +368,10 @@ public final class BeatsTest {
         x = line(1, 1, 1);
         x.set(1, 2, 8);
         mended("of several the least DRUMMER", x, 1, 0, 9, 2);
+        x = line(2, 9);
+        x.set(1, 2, 2);
+        mended("START 1", x, 9, 0, 1, 2);
+        Due.due("mend of ten", ten().mend(40, 2), NONE);
         x = line(1, 4);
         x.set(0, 2, 9);
         mended("of several the least START", x, 5, 0, 6, 1);

@@ -145,7 +145,7 @@ public final class LineTest {
         each(x, 8, 0, 0, 0, 0, 1, 0);
         x.turns(4, 5);
         Due.due("DEAF does not hear the greater number", x.told(4, 8), 0);
-        x.set(3, 2, 2);
+        x.set(3, 2, 1);
         Due.due("DEAF hears the lesser number", x.told(4, 8), 1);
         x = new OneStroke();
         x.drummer(0, 1);

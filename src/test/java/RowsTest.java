@@ -139,6 +139,17 @@ public final class RowsTest {
         Due.due("one that comes then is new", x.drummer(3, 4), 2);
         Due.due("its KIND", x.told(2, 0), 3);
         Due.due("its START", x.told(2, 1), 4);
+        x.keep();
+        x.drummer(0, 8);
+        x.set(3, 3, 2);
+        x.order(3);
+        x.beats(3);
+        x.back();
+        x.drummer(0, 8);
+        int[] fresh = {0, 8, 0, 0, 0, 0, NONE, 1};
+        for (int what = 0; what < 8; what++) {
+            Due.due("told(3, " + what + ") of a new one", x.told(3, what), fresh[what]);
+        }
     }
 
     private static void back() {

@@ -109,6 +109,11 @@ public final class SoundsTest {
         Due.due("STROKES there were do not count", x.count(3), 2);
         found("9, 1", told(x, 1, 9, 1), 30, 1, 0);
         found("8, 1", told(x, 1, 8, 1), 30, 0, 0);
+        x.set(1, 2, 0);
+        found("none strikes, behind some BEATS", told(x, 0, 3, 4), 30, 0, 7);
+        x = line(8, 1);
+        x.order(0);
+        found("one strikes with BEAT 1", told(x, 0, 1), 30, 0, 0);
         x = line(1, 9);
         x.order(0);
         found("START 9 becomes 1", told(x, 0, 8, 9), 20, 1, 0);
@@ -121,6 +126,22 @@ public final class SoundsTest {
         found("floats", told(x, 1, 99999, -99999), 20, 1, 99991 + 100007);
         // Who is not there does not strike, so that its first BEAT is 0.
         found("places beyond all DRUMMERS", told(x, 0, 8, 8, 5, -2), 20, 1, 7);
+        x = line(8, 8);
+        x.keep();
+        x.drummer(0, 8);
+        x.order(0);
+        x.miscounted(0, 20, 0);
+        x.back();
+        x.order(0);
+        found("places of those who are gone", told(x, 0, 1, 2, 5), 20, 0, 5);
+        x = new OneStroke();
+        x.deal(10);
+        x.sheet(0, 0, 24);
+        x.mark(0, 10, 3);
+        x.mark(0, 23, 4);
+        found("24 places", x, 20, 0, 7);
+        x = line(1, 1);
+        x.order(0);
         found("NO NUMBER beyond all DRUMMERS", told(x, 1, 8, 8, NONE, 0), 20, 1, 0);
     }
 

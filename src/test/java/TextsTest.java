@@ -104,7 +104,8 @@ public final class TextsTest {
 
     private static void faults() {
         Object[][] due = {{"", 0}, {"  ", 2}, {"fine", 4}, {"fine  ", 6}, {"  fine", 6}, {"fin 1", 0}, {"finem", 0},
-            {"finefine 1", 0}, {"  fined 1", 2}, {"Fine 1", 0}, {"1", 0}, {"(fine 1)", 0}, {"fine1", 4}, {"fine1+m", 4},
+            {"finefine 1", 0}, {"  fined 1", 2}, {"Fine 1", 0}, {"gine 1", 0}, {"fino 1", 0}, {"finez 1", 0}, {"finea 1", 0},
+            {"fine1 1", 4}, {"fine 9z", 6}, {"fine z9", 5}, {"1", 0}, {"(fine 1)", 0}, {"fine1", 4}, {"fine1+m", 4},
             {"fine 12345", 5}, {"fine 1+12345", 7}, {"fine 00000", 5}, {"fine 1 2", 7}, {"fine 1 m", 7}, {"fine m 1", 7},
             {"fine m b", 7}, {"fine mb", 5}, {"fine l", 5}, {"fine s", 5}, {"fine n", 5}, {"fine x", 5}, {"fine M", 5},
             {"fine fine", 5}, {"fine hear 1", 5}, {"fine 1m", 6}, {"fine m1", 6}, {"fine (1", 7}, {"fine (1))", 8},

@@ -36,6 +36,9 @@ public final class ModelTest {
     }
 
     private void run(int run, List<Method> face) throws Exception {
+        if (run % 3 != 0) {
+            call(named(face, "deal"), 1 + lot.nextInt(10));
+        }
         if (run % 20 == 7) {
             nearTheLastBeat(face);
         }
@@ -103,12 +106,15 @@ public final class ModelTest {
             case "miss0": return lot.nextInt(3) == 0 ? lot.nextInt(101) : lot.nextInt(10);
             case "seed0": case "tell0": case "lay2": return lot.nextInt(4) == 0 ? lot.nextInt() : lot.nextInt(4);
             case "beats0": return 1 + lot.nextInt(lot.nextInt(4) == 0 ? 100 : 9);
-            case "behind1": case "spread0": case "toWhom0": case "mend0": case "miscounted1": case "trim0":
-                return 1 + lot.nextInt(61);
+            case "behind1": case "spread0": case "toWhom0": case "miscounted1": case "trim0": return 1 + lot.nextInt(61);
+            case "mend0": return 1 + lot.nextInt(40);
+            case "mend1": case "behind2": case "why0": return lot.nextInt(3);
+            case "miscounted2": case "textTold1": return lot.nextInt(2);
             case "reach1": case "check0": return lot.nextInt(31);
-            case "sheet1": return lot.nextInt(3) - (lot.nextInt(4) == 0 ? 1 : 0);
+            case "sheet1": return lot.nextInt(5) == 0 ? -1 : lot.nextInt(2);
             case "sheet2": return lot.nextInt(25);
-            case "mark1": case "item1": case "copy1": case "copy3": case "copy4": return lot.nextInt(13);
+            case "mark1": case "item1": return lot.nextInt(13);
+            case "copy1": case "copy3": case "copy4": return lot.nextInt(6);
             case "mark2": return lot.nextInt(5) == 0 ? OneStroke.NONE : lot.nextInt(25) - 4;
             case "copy0": case "copy2": case "sheet0": case "mark0": case "reads0": case "miscounted0":
                 return lot.nextInt(4);

@@ -187,6 +187,8 @@ public final class TextsTest {
         Due.due("no bytes", x.text(), -100);
         Due.due("TEXTS", x.count(6), 1);
         Due.due("a FAULT does not count", x.fine(), 1);
+        Due.due("a FAULT at a word", Tapes.law(x, "fine 1 2"), -107);
+        Due.due("does not reach the next TEXT", Tapes.law(x, "fine 2"), 1);
     }
 
     private static void full() {
@@ -200,6 +202,10 @@ public final class TextsTest {
         Due.due("TEXTS", x.count(6), 14);
         Due.due("the last one counts", x.fine(), 13);
         Due.due("why(2)", x.why(2), 13);
+        x.keep();
+        Due.due("back() with all TEXTS", x.back(), 0);
+        Due.due("the last one counts then", x.fine(), 13);
+        Due.due("soon() with all TEXTS", x.soon(), NONE);
     }
 
     private static void textTold() {

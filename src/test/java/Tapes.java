@@ -18,7 +18,8 @@ final class Tapes {
         return x.text();
     }
 
-    private static int word(String signs, int from) {
+    /** Four signs as a number, the first one highest; a sign that no TEXT has, where there are no more. */
+    static int word(String signs, int from) {
         int word = 0;
         for (int k = from; k < from + 4; k++) {
             word = word << 8 | (k < signs.length() ? signs.charAt(k) & 255 : '#');

@@ -188,6 +188,12 @@ final class Run {
         return due("count(1)", beat);
     }
 
+    /** So many calls were made. */
+    Run isAtCall(int number) {
+        Due.due(name + "calls made", made.size(), number);
+        return this;
+    }
+
     private int make(String call) {
         made.add(call);
         Due.due(name + "no more than " + MOST_CALLS + " calls", made.size() <= MOST_CALLS);

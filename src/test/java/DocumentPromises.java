@@ -59,6 +59,9 @@ final class DocumentPromises {
     private static void drummer(Document doc) {
         doc.says(2, "One more DRUMMER, at the end of the line: its number.").due("drummer(4, 7)", 0)
                 .due("drummer(5, 2)", 1).due("count(0)", 2).each(0, 4, 5).each(1, 7, 2).due("far(0, 1)", 1);
+        doc.also(2).calls("keep()", "drummer(5, 5)", "set(0, 2, 8)", "set(0, 3, 2)", "beats(1)", "back()")
+                .due("drummer(1, 6)", 0).each(0, 1).each(1, 6).each(2, 0).each(3, 0).each(4, 0).each(5, 0)
+                .each(6, NONE).each(7, 1);
         Run run = doc.says(2, "BAD; FULL.").stays("drummer(6, 1)", BAD).stays("drummer(-1, 1)", BAD)
                 .stays("drummer(0, 0)", BAD).stays("drummer(0, 10)", BAD).times(10, "drummer(0, 1)");
         run.stays("drummer(0, 10)", BAD).stays("drummer(0, 1)", FULL);
@@ -132,12 +135,15 @@ final class DocumentPromises {
                 .due("order(2)", 3).due("order(0)", 4).each(2, 4, 5, 3).law("start 9").calls("set(0, 2, 0)")
                 .due("order(0)", 9).each(5, 0);
         line(doc.says(10, "BAD;"), 4).stays("order(1)", BAD).stays("order(-1)", BAD);
-        line(doc.says(10, "NO: its COUNT is above 0."), 4).calls("order(0)").stays("order(0)", NO)
+        line(doc.says(10, "NO: its COUNT is above 0."), 4, 1).calls("order(0)", "order(1)").stays("order(0)", NO)
+                .stays("order(1)", NO)
                 .calls("set(0, 2, 9)").stays("order(0)", NO).calls("beats(1)").due("order(0)", 4);
         line(doc.says(11, "All are still (COUNT 0, also 1 and 2 BEATS ago): how many had a COUNT above 0."), 4, 8, 9)
                 .calls("set(0, 3, 3)", "set(1, 3, 2)", "set(0, 2, 8)", "set(1, 2, 8)", "beats(2)").due("count(4)", 1)
                 .due("hush()", 1).each(2, 0, 0, 0).each(3, 0, 0, 0).each(4, 0, 0, 0).each(5, 1, 1, 1).each(8, 0, 0, 0)
                 .due("beats(9)", 0).due("hush()", 0);
+        line(doc.also(11), 1, 1, 1, 1, 1, 1, 1, 1, 1, 1).calls("order(0)", "order(9)").due("hush()", 2)
+                .due("count(5)", 0);
     }
 
     private static void beatsAndBehind(Document doc) {
@@ -157,6 +163,9 @@ final class DocumentPromises {
     private static void soonAndAll(Document doc) {
         line(doc.says(14, "SOON."), 7, 9).calls("order(0)").due("soon()", 1).law("hear 0").due("soon()", 2)
                 .calls("beats(1)").due("soon()", 1);
+        // A TRAITOR that wakes to 8 does not strike: this one wakes to 9 in the BEAT behind b alone.
+        doc.also(14).calls("drummer(4, 1)", "set(0, 2, 8)").law("hear 1").law("start 7+(b=99)").due("soon()", 100)
+                .law("start 7+(b=101)").due("soon()", NONE);
         line(doc.says(14, "NONE: not by then."), 7).due("soon()", NONE).calls("order(0)", "miss(100)")
                 .due("soon()", NONE);
         line(doc.says(15, "ALL."), 7, 8).calls("order(0)").due("all()", 2).calls("set(1, 1, 9)").due("all()", NONE);
@@ -215,7 +224,8 @@ final class DocumentPromises {
         doc.says(22, "NOTHING;").stays("miscounted(2, 1, 0)", NOTHING).calls("drummer(0, 1)", "sheet(1, 0, 1)")
                 .stays("miscounted(2, 1, 0)", NOTHING);
         doc.says(22, "NONE: there are no DRUMMERS.").row(2, 0, "5").stays("miscounted(2, 1, 0)", NONE)
-                .stays("miscounted(2, 1, 1)", NONE);
+                .stays("miscounted(2, 1, 1)", NONE).calls("drummer(0, 1)").stays("miscounted(2, 1, 0)", 0)
+                .stays("miscounted(2, 1, 1)", 5);
         line(doc.says(23, "What fine gives."), 8).calls("order(0)", "beats(3)").due("fine()", 1).law("fine b-m*2")
                 .due("fine()", 1).law("fine 0-b").stays("fine()", -3);
     }
@@ -296,7 +306,9 @@ final class DocumentPromises {
     private static void pourAndReads(Document doc) {
         line(doc.says(31, "STARTS of DRUMMERS, by numbers, become the places of a SHEET from 0 on (each held within 1"
                 + " .. 9; NO NUMBER, and beyond the SHEET: they stay): how many are otherwise then."), 5, 5, 5, 5, 5, 5)
-                .row(0, 1, "5", "0", "99", "NONE", "6").due("pour(0)", 3).each(1, 5, 1, 9, 5, 6, 5).due("pour(0)", 0);
+                .row(0, 1, "4", "0", "99", "NONE", "6", "5").due("pour(0)", 4).each(1, 4, 1, 9, 5, 6, 5)
+                .due("pour(0)", 0);
+        line(doc.also(31), 1, 1, 1).row(1, 0, "7", "7").due("pour(1)", 2).each(1, 7, 7, 1);
         doc.says(31, "BAD;").stays("pour(4)", BAD).stays("pour(-1)", BAD);
         doc.says(31, "NOTHING.").stays("pour(0)", NOTHING).calls("drummer(0, 5)").stays("pour(3)", NOTHING);
         line(doc.says(32, "The first place k (of numbers alone) at which a SHEET is not COUNT of a DRUMMER behind k"
@@ -417,10 +429,11 @@ final class DocumentPromises {
         Run run = doc.says(42, "0 how many DRUMMERS, 1 THE BEAT, 2 MISS, 3 STROKES of all, together, 4 how many have"
                 + " a COUNT above 0, 5 COUNTS of all, together, 6 TEXTS, 7 numbers that wait, 8 bytes of THE TAPE, 9"
                 + " z.")
-                .times(9, "drummer(0, 9)").calls("set(0, 2, 8)", "set(4, 2, 8)", "beats(1)", "miss(22)", "seed(-33)");
+                .times(9, "drummer(0, 9)").calls("set(0, 2, 8)", "set(4, 2, 8)", "beats(1)", "set(7, 2, 1)")
+                .calls("miss(22)", "seed(-33)");
         run.law("fine 1").law("fine 2").law("fine 3").tape("hear 1234")
                 .calls("tell(4)", "tell(4)", "tell(4)", "tell(4)");
-        int[] due = {9, 1, 22, 5, 5, 45, 3, 4, 9, -33};
+        int[] due = {9, 1, 22, 5, 6, 46, 3, 4, 9, -33};
         for (int what = 0; what < due.length; what++) {
             run.stays("count(" + what + ")", due[what]);
         }

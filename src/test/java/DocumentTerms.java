@@ -308,6 +308,8 @@ final class DocumentTerms {
                 .due("mend(2, 0)", 0).due("mend(2, 1)", 8).due("mend(2, 2)", 2).due("mend(1, 0)", 0)
                 .due("mend(1, 1)", 9).due("mend(1, 2)", 1).calls("set(0, 1, 8)").due("mend(2, 0)", 2)
                 .due("mend(2, 2)", 3).calls("set(2, 1, 8)").due("mend(2, 0)", NONE);
+        line(doc.also(18), 5, 5, 5, 5, 5, 5, 5, 5, 5, 5).law("hear n=9").law("start 10-s").due("mend(1, 0)", 9)
+                .due("mend(1, 1)", 1).due("mend(1, 2)", 1);
     }
 
     private static void far(Document doc) {
@@ -329,6 +331,12 @@ final class DocumentTerms {
                 .row(0, 1, "1", "5", "0").due("miscounted(0, 20, 0)", 2).due("miscounted(0, 20, 1)", 0)
                 .row(0, 1, "NONE", "5").due("miscounted(0, 20, 0)", 0).due("miscounted(0, 20, 1)", 0)
                 .row(0, 1, "1", "NONE", "-3").due("miscounted(0, 20, 0)", 1).due("miscounted(0, 20, 1)", 3);
+        // From now on: BEAT 1 of these n is the next one, whatever THE BEAT is.
+        counts(line(doc.also(22), 5, 5).law("hear 0").toBeat(50), 6, 7).row(0, 0, "3", "2")
+                .due("miscounted(0, 20, 1)", 0);
+        Run ten = line(doc.also(22), 5, 5, 5, 5, 5, 5, 5, 5, 5, 5).calls("sheet(0, 0, 24)", "mark(0, 23, 8)");
+        ten.due("miscounted(0, 20, 0)", 0).due("miscounted(0, 20, 1)", 8).calls("set(9, 2, 7)")
+                .law("hear 0").due("miscounted(0, 20, 1)", 10);
     }
 
     // ---- 4 TEXTS
@@ -346,7 +354,7 @@ final class DocumentTerms {
         doc.says(26, "KEY E.").tape("fine 1").due("text()", 0).tape("1 fine").due("text()", -100).tape("fine fine")
                 .due("text()", -105);
         doc.says(26, "KEY: hear | start | fine.").tape("hear 1").due("text()", 0).tape("start 1").due("text()", 1)
-                .tape("fine 1").due("text()", 2).tape("far 1").due("text()", -100).tape("hea 1").due("text()", -100)
+                .tape("fine 1").due("text()", 2).tape("bear 1").due("text()", -100).tape("hea 1").due("text()", -100)
                 .tape("starts 1").due("text()", -100);
     }
 
@@ -409,6 +417,8 @@ final class DocumentTerms {
                 + " itself.");
         fault(doc.also(26), "finem", 0);
         fault(doc.also(26), "fine mm", 5);
+        fault(doc.also(26), "fine ma", 5);
+        fault(doc.also(26), "fine mz", 5);
         fault(doc.also(26), "Fine m", 0);
         fault(doc.also(26), "fine m~", 6);
         fault(doc.also(26), "fine\tm", 4);
@@ -508,6 +518,7 @@ final class DocumentTerms {
         doc.says(40, "AN IMAGE keeps all but SHEETS, SLOTS, numbers that wait, THE TAPE;").calls("drummer(3, 4)")
                 .calls("set(0, 3, 3)", "set(0, 2, 7)", "miss(1)", "beats(3)", "seed(8)").law("fine 5").calls("keep()")
                 .calls("turns(0, 0)", "set(0, 1, 9)", "set(0, 3, 1)", "miss(0)", "beats(9)", "drummer(0, 1)")
+                .calls("set(0, 2, 8)", "beats(1)").each(5, 2)
                 .law("fine 6").law("hear 1").calls("back()").due("count(0)", 1).due("count(1)", 3).due("count(2)", 1)
                 .due("count(6)", 1).due("count(9)", 8).due("fine()", 5).due("why(0)", NONE).each(0, 3).each(1, 4)
                 .each(2, 0).each(3, 9).each(4, 8).each(5, 1).each(6, 2).each(7, 3);

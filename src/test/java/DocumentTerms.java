@@ -332,7 +332,7 @@ final class DocumentTerms {
                 .row(0, 1, "NONE", "5").due("miscounted(0, 20, 0)", 0).due("miscounted(0, 20, 1)", 0)
                 .row(0, 1, "1", "NONE", "-3").due("miscounted(0, 20, 0)", 1).due("miscounted(0, 20, 1)", 3);
         // From now on: BEAT 1 of these n is the next one, whatever THE BEAT is.
-        counts(line(doc.also(22), 5, 5).law("hear 0").toBeat(50), 6, 7).row(0, 0, "3", "2")
+        counts(line(doc.also(22), 5, 5, 5).law("hear 0").toBeat(50), 6, 7).row(0, 0, "3", "2", "0")
                 .due("miscounted(0, 20, 1)", 0);
         Run ten = line(doc.also(22), 5, 5, 5, 5, 5, 5, 5, 5, 5, 5).calls("sheet(0, 0, 24)", "mark(0, 23, 8)");
         ten.due("miscounted(0, 20, 0)", 0).due("miscounted(0, 20, 1)", 8).calls("set(9, 2, 7)")
@@ -421,6 +421,8 @@ final class DocumentTerms {
         fault(doc.also(26), "fine mz", 5);
         fault(doc.also(26), "Fine m", 0);
         fault(doc.also(26), "fine m~", 6);
+        fault(doc.also(26), "fine m" + (char) 0, 6);
+        fault(doc.also(26), "fine " + (char) 233, 5);
         fault(doc.also(26), "fine\tm", 4);
         fault(doc.also(26), "fine 1<=2", 7);
         doc.comes("Between words and signs, and at the ends, there may be blanks (byte 32); a word right behind"
@@ -526,7 +528,8 @@ final class DocumentTerms {
                 .due("count(7)", 1).due("pour(1)", 0).due("rest(1, 10)", 7).due("text()", 0).due("fine()", 8);
         Run again = line(doc.says(41, "all can become as it is (again and again)."), 7).calls("order(0)", "keep()");
         for (int k = 1; k < 9; k++) {
-            again.calls("beats(" + k + ")").due("back()", 1).each(2, 7).due("count(1)", 0).due("count(9)", 1);
+            again.calls("beats(" + k + ")").each(5, k < 2 ? 0 : 1).due("back()", 1).each(2, 7).each(5, 0).each(6, NONE)
+                    .due("count(1)", 0).due("count(9)", 1);
         }
         counts(line(doc.says(39, "THE BEATS TOLD: of n BEATS, one behind the other, by THE IMAGE: how many strike;"
                 + " COUNTS of all, together, behind each."), 6, 6), 7, 8).calls("keep()", "hush()", "beats(5)")
